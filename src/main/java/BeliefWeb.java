@@ -71,7 +71,7 @@ public final class BeliefWeb {
         if (!web.hasThing(a) || !web.hasThing(b) || a == b || web.parentPlace(b, a) != NONE) {
             return BAD;
         }
-        if (isIn(web.withAncestors(1 << a, 0), b)) {
+        if (isIn(web.ancestorsAnd(a), b)) {
             return RING;
         }
         if (web.parentCounts[b] >= MAX_PARENTS) {
@@ -571,39 +571,20 @@ public final class BeliefWeb {
             return set;
         }
 
-        /** The set, and all from which arrows lead to it, without arrows to things that are barred. */
-        int withAncestors(int set, int barred) {
-            int found = set;
+        /** Thing x, and all from which a row of arrows leads to it. */
+        int ancestorsAnd(int x) {
+            int found = 1 << x;
             for (int round = 0; round < things; round++) {
-                for (int x = 0; x < things; x++) {
-                    if (isIn(found & ~barred, x)) {
-                        found |= parentSet(x);
+                for (int t = 0; t < things; t++) {
+                    if (isIn(found, t)) {
+                        found |= parentSet(t);
                     }
                 }
             }
             return found;
         }
 
-        int seenSet() {
-            int set = 0;
-            for (int x = 0; x < things; x++) {
-                if (seen[x] != NONE) {
-                    set |= 1 << x;
-                }
-            }
-            return set;
-        }
-
-        int doneSet() {
-            int set = 0;
-            for (int x = 0; x < things; x++) {
-                if (done[x] != NONE) {
-                    set |= 1 << x;
-                }
-            }
-            return set;
-        }
-
+        /** Without the arrow to a thing that is done, here and below. */
         int parentSetNow(int x) {
             return done[x] == NONE ? parentSet(x) : 0;
         }
@@ -619,25 +600,24 @@ public final class BeliefWeb {
         }
 
         /**
-         * Follows open walks from x, which may come back to a thing: where such a walk reaches y
-         * without coming back to x, an open road does too, for a loop that is left out leaves
-         * either a thing that was free, or one from which arrows lead to what made the loop open.
+         * Follows walks from x that pass through free things and turn round, from an arrow's end
+         * to another arrow's end, at seen ones. Unlike a road, a walk may come to a thing again.
+         * Each open road has its walk: where two arrows of it end above a thing that is seen, the
+         * walk goes down to that thing and back. And each walk has its open road: leave out what
+         * lies between two visits to one thing; if two arrows end there now, then it was a seen
+         * one, or the walk went down from it and turned round, so that a seen one lies below it.
          */
         boolean hasOpenRoad(int x, int y) {
-            int open = withAncestors(seenSet(), doneSet());
             int alongArrow = childSetNow(x);
             int againstArrow = parentSetNow(x);
             for (int round = 0; round < 2 * things; round++) {
                 for (int t = 0; t < things; t++) {
-                    if (t == x || t == y) {
-                        continue;
-                    }
                     boolean along = isIn(alongArrow, t);
                     boolean against = isIn(againstArrow, t);
                     if (isFree(t) && (along || against)) {
                         alongArrow |= childSetNow(t);
                     }
-                    if (isFree(t) && against || along && isIn(open, t)) {
+                    if (isFree(t) && against || seen[t] != NONE && along) {
                         againstArrow |= parentSetNow(t);
                     }
                 }

@@ -61,7 +61,7 @@ public final class ModelTest {
 
     private void roads(int run) {
         begin(run);
-        for (int i = 0; i < 5 + run % 6; i++) due("thing(2, 1)", web.thing(2, 1), model.thing(2, 1));
+        for (int i = 0; i < 5 + run % 8; i++) due("thing(2, 1)", web.thing(2, 1), model.thing(2, 1));
         for (int i = 0; i < 10 + run % 20; i++) makeArrow();
         while (calls < 400 && wrong < 5) {
             int x = thing(), value = up(4) == 0 ? -1 : 0;
@@ -71,6 +71,7 @@ public final class ModelTest {
                 case 3: due("undo()", web.undo(), model.undo()); break;
                 case 4: makeArrow(); break;
                 case 5: cutArrow(); break;
+                case 6: due("count(1)", web.count(1), model.count(1)); break;
                 default: askApart();
             }
         }

@@ -21,7 +21,7 @@ public final class PromiseTest {
         newObject(); thing(); thingAndHistory(); arrow(); cut(); weight(); told(); about(); parent(); sound();
         see(); act(); force(); chance(); ask(); both(); upAndDown(); most(); likeliest(); likeliestTies();
         at(); wholes(); apart(); apartDone(); options(); worth(); expected(); best(); gain(); next();
-        undo(); undoEachKind(); undoHundred(); count(); orderOfAnswers(); largest(); wrongNumbers();
+        undo(); undoEachKind(); undoHundred(); count(); orderOfAnswers(); largest(); largestGain(); fullWeb(); wrongNumbers();
         System.out.println(wrong == 0 ? "all promises hold" : wrong + " answers are not as due");
         if (wrong != 0) System.exit(1);
     }
@@ -902,13 +902,76 @@ public final class PromiseTest {
         w.expected(1);
         fraction(w, "expected(1)", 5500, 1);
         due("wholes()", w.wholes(), 2);
+    }
+
+    /** Eleven things that follow thing 0, and two options that are each right for one of its values. */
+    private static void largestGain() {
         promise = 27;
-        w.worth(1, 0, 0, 500);
-        for (int x = 0; x < 12; x++) for (int v = 0; v < w.about(x, 0); v++) w.worth(0, x, v, 500);
-        w.gain(0);
-        fraction(w, "gain(0)", 0, 1);
-        w.best();
-        fraction(w, "best()", 6000, 1);
+        BeliefWeb w = new BeliefWeb();
+        for (int x = 0; x < 12; x++) w.thing(2, x < 9 ? 10 : 1);
+        w.options(2);
+        for (int x = 0; x < 12; x++) {
+            if (x == 0) {
+                row(w, 0, 0, 5, 5);
+            } else {
+                w.arrow(0, x);
+                row(w, x, 1, 0, x < 9 ? 10 : 1);
+            }
+            for (int v = 0; v < 2; v++) {
+                w.force(x, v, 3);
+                w.worth(0, x, v, v == 0 ? 500 : -500);
+                w.worth(1, x, v, v == 0 ? -500 : 500);
+            }
+        }
+        w.expected(1);
+        fraction(w, "expected(1)", 0, 1);
+        for (int x = 0; x < 12; x++) {
+            due("gain(" + x + ")", w.gain(x), 1);
+            fraction(w, "gain(" + x + ")", 6000, 1);
+        }
+        due("next()", w.next(), 0);
+        fraction(w, "next()", 6000, 1);
+    }
+
+    /** Twelve things, the last of four values: every call at the ends of its arrays. */
+    private static void fullWeb() {
+        promise = 2;
+        BeliefWeb w = new BeliefWeb();
+        for (int x = 0; x < 11; x++) w.thing(2, 2);
+        due("thing(4, 2)", w.thing(4, 2), 11);
+        promise = 3;
+        for (int p = 8; p < 11; p++) due("arrow(" + p + ", 11)", w.arrow(p, 11), p - 7);
+        due("arrow(11, 8)", w.arrow(11, 8), -2);
+        due("count(1)", w.count(1), 3);
+        due("parent(11, 2)", w.parent(11, 2), 10);
+        for (int r = 0; r < 8; r++) row(w, 11, r, 0, 0, 1, 1);
+        due("sound()", w.sound(), 1);
+        promise = 25;
+        due("options(6)", w.options(6), 0);
+        due("worth(5, 11, 3, 500)", w.worth(5, 11, 3, 500), 0);
+        due("force(11, 3, 3)", w.force(11, 3, 3), 1);
+        due("expected(5)", w.expected(5), 1);
+        fraction(w, "expected(5)", 375, 1);
+        due("both(11, 3, 10, 0)", w.both(11, 3, 10, 0), 1);
+        fraction(w, "both(11, 3, 10, 0)", 3, 4);
+        due("best()", w.best(), 5);
+        due("gain(11)", w.gain(11), 1);
+        fraction(w, "gain(11)", 0, 1);
+        due("next()", w.next(), 0);
+        due("most(11)", w.most(11), 3);
+        due("likeliest(1)", w.likeliest(1), 1);
+        due("at(11)", w.at(11), 2);
+        due("at(12)", w.at(12), -2);
+        due("wholes()", w.wholes(), 2);
+        due("chance()", w.chance(), 1);
+        fraction(w, "chance()", 2, 1);
+        due("apart(8, 10)", w.apart(8, 10), 1);
+        due("see(11, 3)", w.see(11, 3), 1);
+        due("apart(8, 10)", w.apart(8, 10), 0);
+        due("apart(0, 11)", w.apart(0, 11), 1);
+        due("cut(10, 11)", w.cut(10, 11), 2);
+        due("undo()", w.undo(), w.count(3));
+        due("about(11, 3)", w.about(11, 3), 8);
     }
 
     /** No number may make a call throw, on an empty web or a full one. */
