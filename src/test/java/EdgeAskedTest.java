@@ -1,16 +1,7 @@
 /** Promises 13 to 22 and the terms of what is asked at their edges. */
 public final class EdgeAskedTest {
     private static final Edges E = new Edges();
-    private static final String PAIR = EdgeWebTest.PAIR;
-
-    /** What makes PAIR so that THE SUM is 0, and so that it is not SOUND. */
-    private static final String NOUGHT = """
-        see(0, 0) = 1
-        see(1, 2) = 1
-        """;
-    private static final String ROUGH = """
-        weight(1, 1, 2, 2) = 3
-        """;
+    private static final String PAIR = Edges.PAIR, NOUGHT = Edges.NOUGHT, ROUGH = Edges.ROUGH;
 
     /** Ten WHOLES with a LIKELIHOOD above 0: one of 12, two of 6, three of 4, four of 3, together 48. */
     private static final String TEN = """
@@ -130,6 +121,7 @@ public final class EdgeAskedTest {
             """);
         E.edge(14, "ARROWS lead from a thing, a PARENT, to another one, its CHILD", "twelve in a row, from the last to the first", """
             12 x thing(2, 2)
+            wholes() = 1
             arrow(11, 10) = 1
             arrow(10, 9) = 1
             arrow(9, 8) = 1

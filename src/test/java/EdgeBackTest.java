@@ -1,7 +1,7 @@
 /** Promises 29 and 30, the terms of acts, and what holds for all calls, at their edges. */
 public final class EdgeBackTest {
     private static final Edges E = new Edges();
-    private static final String PAIR = EdgeWebTest.PAIR;
+    private static final String PAIR = Edges.PAIR;
 
     public static void main(String[] args) {
         undoNone(); undoKinds(); undoTables(); undoOptions(); hundred(); hundredRound(); undoAndThings();

@@ -1,7 +1,7 @@
 /** Promises 10 to 12 and the terms of what is SEEN, DONE and weighed at their edges. */
 public final class EdgeKnownTest {
     private static final Edges E = new Edges();
-    private static final String PAIR = EdgeWebTest.PAIR;
+    private static final String PAIR = Edges.PAIR;
 
     public static void main(String[] args) {
         see(); act(); seenAndDone();

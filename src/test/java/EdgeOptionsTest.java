@@ -1,15 +1,7 @@
 /** Promises 23 to 28 and the terms of options, worths and gains at their edges. */
 public final class EdgeOptionsTest {
     private static final Edges E = new Edges();
-    private static final String PAIR = EdgeWebTest.PAIR;
-
-    private static final String NOUGHT = """
-        see(0, 0) = 1
-        see(1, 2) = 1
-        """;
-    private static final String ROUGH = """
-        weight(1, 1, 2, 2) = 3
-        """;
+    private static final String PAIR = Edges.PAIR, NOUGHT = Edges.NOUGHT, ROUGH = Edges.ROUGH;
 
     public static void main(String[] args) {
         options(); worthNumbers(); worthKept();

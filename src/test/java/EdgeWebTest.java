@@ -1,16 +1,7 @@
 /** Promises 1 to 9 and the terms of things, arrows and tables at their edges. */
 public final class EdgeWebTest {
     private static final Edges E = new Edges();
-
-    /** Thing 0 (2 values, total 4) leads to thing 1 (3 values, total 6); 9 acts. */
-    static final String PAIR = """
-        thing(2, 4) = 0
-        thing(3, 6) = 1
-        arrow(0, 1) = 1
-        row 0 0 : 1 3
-        row 1 0 : 2 4 0
-        row 1 1 : 1 2 3
-        """;
+    private static final String PAIR = Edges.PAIR;
 
     public static void main(String[] args) {
         newObject();

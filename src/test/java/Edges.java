@@ -1,5 +1,6 @@
 import java.lang.reflect.InvocationTargetException;
 import java.lang.reflect.Method;
+import java.lang.reflect.Modifier;
 import java.util.ArrayList;
 import java.util.HashMap;
 import java.util.List;
@@ -19,13 +20,34 @@ import java.util.TreeSet;
  *   # a remark
  */
 final class Edges {
+    /** Thing 0 (2 values, total 4) leads to thing 1 (3 values, total 6); 9 acts. */
+    static final String PAIR = """
+        thing(2, 4) = 0
+        thing(3, 6) = 1
+        arrow(0, 1) = 1
+        row 0 0 : 1 3
+        row 1 0 : 2 4 0
+        row 1 1 : 1 2 3
+        """;
+
+    /** Behind PAIR: THE SUM becomes 0. */
+    static final String NOUGHT = """
+        see(0, 0) = 1
+        see(1, 2) = 1
+        """;
+
+    /** Behind PAIR: thing 1's last row becomes too light. */
+    static final String ROUGH = """
+        weight(1, 1, 2, 2) = 3
+        """;
+
     /** No more is promised of an object. */
     private static final int MOST_CALLS = 512;
     private static final Map<String, Method> FACE = new HashMap<>();
 
     static {
         for (Method m : BeliefWeb.class.getDeclaredMethods())
-            if (java.lang.reflect.Modifier.isPublic(m.getModifiers())) FACE.put(m.getName(), m);
+            if (Modifier.isPublic(m.getModifiers())) FACE.put(m.getName(), m);
     }
 
     private final TreeSet<Integer> promises = new TreeSet<>();
