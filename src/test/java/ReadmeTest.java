@@ -30,7 +30,8 @@ public final class ReadmeTest {
         try {
             Files.writeString(file, "public class Example { public static void main(String[] args) {\n" + example + "} }\n");
             linesOf("javac", "-cp", path, "-d", room.toString(), file.toString());
-            return linesOf("java", "-cp", path, "Example");
+            // The machine's own warnings would stand among the lines.
+            return linesOf("java", "-Xlog:disable", "-cp", path, "Example");
         } finally {
             Files.deleteIfExists(room.resolve("Example.class"));
             Files.deleteIfExists(file);
